@@ -1561,6 +1561,10 @@ public final class GalleyStroke {
             long times = rows[from - 1];
             for (int i = from; i <= last; i++) {
                 times = rowing.stroke(times, crew.laws, beat, rowing.text.isFog(crew.stroke + i - 1));
+                if (i == from && from < last && times == rows[from]) {
+                    // The same beat from the next stroke on does as much, and that was looked at already.
+                    return 0;
+                }
             }
             return rowing.wayOf(times);
         }
