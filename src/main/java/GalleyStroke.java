@@ -640,6 +640,7 @@ public final class GalleyStroke {
 
         private final Tokens tokens;
         private int at;
+        private int kind;
         private Text text;
         private int fault;
         int place = NONE;
@@ -658,22 +659,49 @@ public final class GalleyStroke {
         }
 
         int readTape(int taped, Text into) {
-            text = into;
-            text.clear();
-            tokens.cut(taped);
-            at = 0;
-            fault = 0;
-            place = NONE;
-            slip = 0;
-            named = 0;
-            Arrays.fill(beyond, NONE);
-            for (int i = 0; i <= MOST_TOKENS && fault == 0 && kind() != Kind.END; i++) {
-                readTell();
+            begin(taped, into);
+            for (int i = 0; i <= MOST_TOKENS && fault == 0 && kind != Kind.END; i++) {
+                switch (kind) {
+                    case Kind.PARTS:
+                        readParts();
+                        break;
+                    case Kind.LAW:
+                        readLaw();
+                        break;
+                    case Kind.MAN:
+                        readMan();
+                        break;
+                    case Kind.DRUM:
+                        readDrum();
+                        break;
+                    case Kind.SONG:
+                        readSong();
+                        break;
+                    case Kind.FOG:
+                        readFog();
+                        break;
+                    default:
+                        fail(SYNTAX);
+                        break;
+                }
             }
             if (fault == 0) {
                 takeLaterFault();
             }
             return fault;
+        }
+
+        private void begin(int taped, Text into) {
+            text = into;
+            text.clear();
+            tokens.cut(taped);
+            at = 0;
+            kind = tokens.kinds[0];
+            fault = 0;
+            place = NONE;
+            slip = 0;
+            named = 0;
+            Arrays.fill(beyond, NONE);
         }
 
         private void takeLaterFault() {
@@ -686,10 +714,6 @@ public final class GalleyStroke {
             }
         }
 
-        private int kind() {
-            return tokens.kinds[at];
-        }
-
         private void fail(int why) {
             if (fault == 0) {
                 fault = why;
@@ -698,16 +722,17 @@ public final class GalleyStroke {
         }
 
         private boolean take(int wanted) {
-            if (fault == 0 && kind() != wanted) {
-                fail(SYNTAX);
+            if (fault != 0) {
+                return false;
             }
-            if (fault == 0 && at >= MOST_TOKENS) {
-                fail(ROOM);
+            if (kind != wanted || at >= MOST_TOKENS) {
+                fault = kind != wanted ? SYNTAX : ROOM;
+                place = tokens.places[at];
+                return false;
             }
-            if (fault == 0) {
-                at++;
-            }
-            return fault == 0;
+            at++;
+            kind = tokens.kinds[at];
+            return true;
         }
 
         private long taken() {
@@ -718,32 +743,6 @@ public final class GalleyStroke {
             if (slip == 0 && at > 0) {
                 slip = why;
                 slipPlace = tokens.places[at - 1];
-            }
-        }
-
-        private void readTell() {
-            switch (kind()) {
-                case Kind.PARTS:
-                    readParts();
-                    break;
-                case Kind.LAW:
-                    readLaw();
-                    break;
-                case Kind.MAN:
-                    readMan();
-                    break;
-                case Kind.DRUM:
-                    readDrum();
-                    break;
-                case Kind.SONG:
-                    readSong();
-                    break;
-                case Kind.FOG:
-                    readFog();
-                    break;
-                default:
-                    fail(SYNTAX);
-                    break;
             }
         }
 
@@ -770,7 +769,7 @@ public final class GalleyStroke {
             }
             take(Kind.ASSIGN);
             text.lawStarts[text.laws] = text.codeLength;
-            for (int ifs = 0; ifs <= MOST_IFS && fault == 0 && kind() == Kind.IF; ifs++) {
+            for (int ifs = 0; ifs <= MOST_IFS && fault == 0 && kind == Kind.IF; ifs++) {
                 if (ifs == MOST_IFS) {
                     fail(ROOM);
                 }
@@ -893,8 +892,8 @@ public final class GalleyStroke {
             int ands = NONE;
             int ors = NONE;
             readRelation();
-            for (int i = 0; i < MOST_TOKENS && fault == 0 && (kind() == Kind.AND || kind() == Kind.OR); i++) {
-                if (kind() == Kind.AND) {
+            for (int i = 0; i < MOST_TOKENS && fault == 0 && (kind == Kind.AND || kind == Kind.OR); i++) {
+                if (kind == Kind.AND) {
                     take(Kind.AND);
                     ands = emit(Kind.AND, ands + 1);
                 } else {
@@ -911,12 +910,12 @@ public final class GalleyStroke {
 
         private void readRelation() {
             boolean turned = false;
-            for (int i = 0; i < MOST_TOKENS && fault == 0 && kind() == Kind.NOT; i++) {
+            for (int i = 0; i < MOST_TOKENS && fault == 0 && kind == Kind.NOT; i++) {
                 take(Kind.NOT);
                 turned = !turned;
             }
             readExpression(0, 0);
-            int sign = kind();
+            int sign = kind;
             if (sign < Kind.EQUAL || sign > Kind.LESS_EQUAL) {
                 fail(SYNTAX);
             }
@@ -938,8 +937,8 @@ public final class GalleyStroke {
                 return;
             }
             readExpression(level + 1, depth);
-            for (int i = 0; i < MOST_TOKENS && fault == 0 && joinsAt(level, kind()); i++) {
-                int sign = kind();
+            for (int i = 0; i < MOST_TOKENS && fault == 0 && joinsAt(level, kind); i++) {
+                int sign = kind;
                 take(sign);
                 readExpression(level + 1, depth);
                 emit(sign, 0);
@@ -954,42 +953,39 @@ public final class GalleyStroke {
         }
 
         private void readUnit(int depth) {
-            int first = kind();
+            int first = kind;
             if (first == Kind.INT) {
                 take(Kind.INT);
                 emit(Kind.INT, (int) taken());
-            } else if (first >= Kind.OWN && first <= Kind.SONG) {
+                return;
+            }
+            if (first >= Kind.OWN && first <= Kind.SONG) {
                 take(first);
                 emit(first, 0);
-            } else if (first == Kind.GAP) {
-                take(Kind.GAP);
-                refuseTooDeep(depth);
-                take(Kind.OPEN);
-                readExpression(0, depth + 1);
-                take(Kind.COMMA);
-                readExpression(0, depth + 1);
-                take(Kind.CLOSE);
-                emit(Kind.GAP, 0);
-            } else {
-                refuseTooDeep(depth);
-                take(Kind.OPEN);
-                readExpression(0, depth + 1);
-                take(Kind.CLOSE);
+                return;
             }
-        }
-
-        private void refuseTooDeep(int depth) {
-            if (kind() == Kind.OPEN && depth >= DEEPEST) {
+            if (first == Kind.GAP) {
+                take(Kind.GAP);
+            }
+            if (kind == Kind.OPEN && depth >= DEEPEST) {
                 fail(ROOM);
             }
+            take(Kind.OPEN);
+            readExpression(0, depth + 1);
+            if (first == Kind.GAP) {
+                take(Kind.COMMA);
+                readExpression(0, depth + 1);
+                emit(Kind.GAP, 0);
+            }
+            take(Kind.CLOSE);
         }
 
-        private int emit(int kind, int operand) {
+        private int emit(int order, int operand) {
             int word = text.codeLength;
             if (fault != 0 || word >= MOST_TOKENS) {
                 return NONE;
             }
-            text.code[word] = operand << KIND_BITS | kind;
+            text.code[word] = operand << KIND_BITS | order;
             text.codeLength++;
             return word;
         }
@@ -1446,7 +1442,7 @@ public final class GalleyStroke {
                 addBench(law, bench, drum);
             }
             int all = Math.min(howMany(m), MOST);
-            Arrays.fill(tills, 0, all, UNKNOWN);
+            Arrays.fill(tills, UNKNOWN);
             settling = 0;
             longest = 0;
             for (int i = 0; i < all; i++) {
@@ -1688,7 +1684,7 @@ public final class GalleyStroke {
                 if (!agrees(rowing.clashBits(times), stroke, known)) {
                     return false;
                 }
-                times = rowAsTold(times, stroke);
+                times = rowing.stroke(times, laws, rowing.text.drum, rowing.text.isFog(stroke));
             }
             return true;
         }
@@ -1697,10 +1693,6 @@ public final class GalleyStroke {
             for (int man = 0; man < rowing.text.men; man++) {
                 laws[man] = (broken >> man & 1) == 1 ? NONE : rowing.text.lawOf[man];
             }
-        }
-
-        private long rowAsTold(long times, int stroke) {
-            return rowing.stroke(times, laws, rowing.text.drum, rowing.text.isFog(stroke));
         }
 
         private int lastKnown(int known) {
@@ -1724,7 +1716,7 @@ public final class GalleyStroke {
             breakMen(broken);
             long times = rowing.text.begins;
             for (int i = 0; i < stroke; i++) {
-                times = rowAsTold(times, i);
+                times = rowing.stroke(times, laws, rowing.text.drum, rowing.text.isFog(i));
             }
             return rowing.clashBits(times);
         }

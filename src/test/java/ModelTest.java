@@ -123,12 +123,12 @@ public final class ModelTest {
             s.append("parts").append(blank()).append(parts).append(";");
         }
         int laws = 1 + upTo(mended ? 4 : 7);
+        int slack = mended ? 0 : upTo(3) == 0 ? 1 : 0;
         for (int i = 0; i < laws; i++) {
-            s.append("law ").append((char) ('p' + i)).append(blank()).append("= ").append(randomLaw()).append(";");
+            s.append("law ").append((char) ('p' + (slack > 0 && upTo(6) == 0 ? 0 : i))).append(blank()).append("= ").append(randomLaw()).append(";");
         }
-        int slack = mended ? 0 : upTo(8) == 0 ? 1 : 0;
         for (int i = 0; i < men; i++) {
-            s.append("man ").append((char) ('a' + i)).append(" ").append((char) ('p' + upTo(laws + slack)))
+            s.append("man ").append((char) ('a' + (slack > 0 && upTo(9) == 0 ? 0 : i))).append(" ").append((char) ('p' + upTo(laws + slack)))
                 .append(" ").append(upTo(parts + slack)).append(";");
         }
         if (upTo(3) > 0) {

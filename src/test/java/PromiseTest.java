@@ -149,6 +149,8 @@ public final class PromiseTest {
         fault("", 0, -1);
         fault(" \t\r\n ", 0, -1);
         fault("\u000bparts 9;", 1, 0);
+        fault("\u0000", 1, 0);
+        fault("parts 9;\u0000", 1, 8);
         fault("parts", 1, 5);
         fault("parts 12", 1, 8);
         fault("parts 12  ", 1, 10);
