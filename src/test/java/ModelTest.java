@@ -9,6 +9,8 @@ public final class ModelTest {
         "(", ")", " ", "\n", "\t", "\r", "0", "7", "24", "999", "1000", "12345", "abcdefgh", "abcdefghi", "a", "b",
         "!", ".", ">", "A", "\u00e9", "\u0000"};
 
+    private static final int[] WILD = {Integer.MIN_VALUE, Integer.MAX_VALUE, -2, 31, 32, 64, 1000, -1000, 1 << 16};
+
     private final Random random;
     private final GalleyStroke it = new GalleyStroke();
     private final Model model = new Model();
@@ -55,7 +57,7 @@ public final class ModelTest {
     }
 
     private int around(int low, int high) {
-        return low - 1 + upTo(high - low + 3);
+        return upTo(80) == 0 ? WILD[upTo(WILD.length)] : low - 1 + upTo(high - low + 3);
     }
 
     private void alike(String call, long got, long want) {
@@ -297,7 +299,7 @@ public final class ModelTest {
             case 5: {
                 int strokes = upTo(10) == 0 ? around(1, 10) : 1 + upTo(5);
                 int of = around(1, 9);
-                int a = around(0, Math.max(of, 0));
+                int a = around(0, Math.min(Math.max(of, 0), 9));
                 alike("odds(" + strokes + ", " + a + ", " + of + ")", it.odds(strokes, a, of),
                     model.odds(strokes, a, of));
                 break;
