@@ -630,6 +630,7 @@ public final class GalleyStroke {
         static final int BEYOND = 6;
 
         static final int KIND_BITS = 6;
+        static final int KIND_MASK = 63;
 
         private static final int MOST_IFS = 8;
         private static final int DEEPEST = 6;
@@ -992,7 +993,7 @@ public final class GalleyStroke {
 
         private void land(int jump) {
             if (jump != NONE) {
-                text.code[jump] = text.codeLength << KIND_BITS | (text.code[jump] & ((1 << KIND_BITS) - 1));
+                text.code[jump] = text.codeLength << KIND_BITS | (text.code[jump] & KIND_MASK);
             }
         }
 
@@ -1130,8 +1131,9 @@ public final class GalleyStroke {
             int at = start;
             int top = 0;
             for (int step = 0; step < text.codeLength && at < text.codeLength; step++) {
-                int kind = text.code[at] & ((1 << Reader.KIND_BITS) - 1);
-                int operand = text.code[at] >> Reader.KIND_BITS;
+                int word = text.code[at];
+                int kind = word & Reader.KIND_MASK;
+                int operand = word >> Reader.KIND_BITS;
                 at++;
                 if (kind == Kind.INT) {
                     top++;
@@ -1222,8 +1224,11 @@ public final class GalleyStroke {
                 }
             }
             int best = 0;
-            for (int part = 1; part < text.parts; part++) {
-                if (menNear(part) > menNear(best)) {
+            int most = menNear(0);
+            for (int part = 1; part < text.parts && most < text.men; part++) {
+                int near = menNear(part);
+                if (near > most) {
+                    most = near;
                     best = part;
                 }
             }
