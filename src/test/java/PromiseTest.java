@@ -76,14 +76,6 @@ public final class PromiseTest {
         due(4, "bytes behind read() of " + text, x.count(8), 0);
     }
 
-    private static String many(String tell, int times) {
-        StringBuilder s = new StringBuilder();
-        for (int i = 0; i < times; i++) {
-            s.append(tell.replace('#', (char) ('a' + i)));
-        }
-        return s.toString();
-    }
-
     // ---- 1 to 5
 
     private static void newObject() {
@@ -208,16 +200,16 @@ public final class PromiseTest {
     }
 
     private static void roomFaults() {
-        fault(many("law # = own;", 6), 0, -1);
-        fault(many("law # = own;", 7), 2, 72);
-        fault(many("law # = own;", 6) + "law 7", 2, 72);
-        fault("law x = own;" + many("man # x 1;", 12), 0, -1);
-        fault("law x = own;" + many("man # x 1;", 13), 2, 132);
-        fault(many("fog 1 2;", 4), 0, -1);
-        fault(many("fog 1 2;", 5), 2, 32);
+        fault(Texts.many("law # = own;", 6), 0, -1);
+        fault(Texts.many("law # = own;", 7), 2, 72);
+        fault(Texts.many("law # = own;", 6) + "law 7", 2, 72);
+        fault("law x = own;" + Texts.many("man # x 1;", 12), 0, -1);
+        fault("law x = own;" + Texts.many("man # x 1;", 13), 2, 132);
+        fault(Texts.many("fog 1 2;", 4), 0, -1);
+        fault(Texts.many("fog 1 2;", 5), 2, 32);
         String branch = "if own<1 then 1 else ";
-        fault("law a = " + many(branch, 8) + "2; law b = " + many(branch, 8) + "2;", 0, -1);
-        fault("law a = " + many(branch, 9) + "2;", 2, 8 + 8 * 21);
+        fault("law a = " + Texts.many(branch, 8) + "2; law b = " + Texts.many(branch, 8) + "2;", 0, -1);
+        fault("law a = " + Texts.many(branch, 9) + "2;", 2, 8 + 8 * 21);
         fault("law a = ((((((1))))));", 0, -1);
         fault("law a = (((((((1)))))));", 2, 14);
         fault("law a = (((((gap(1, (2)))))));", 2, 20);
@@ -225,17 +217,17 @@ public final class PromiseTest {
         fault("law a = gap(gap(gap(gap(gap(gap(1,1),1),1),1),1),1);", 0, -1);
         fault("law a = gap(gap(gap(gap(gap(gap(gap(1,1),1),1),1),1),1),1);", 2, 35);
         // 133 songs are 399 tokens.
-        fault(many("song 1;", 133), 0, -1);
-        fault(many("song 1;", 134), 2, 133 * 7 + 5);
-        fault(many("song 1;", 133) + "song ;", 1, 133 * 7 + 5);
-        fault(many("song 1;", 132) + "drum 1 2;", 0, -1);
-        fault(many("song 1;", 132) + "drum 1 2;  ", 0, -1);
-        fault(many("song 1;", 132) + "drum 1 2; parts 3;", 2, 132 * 7 + 10);
-        fault(many("song 1;", 132) + "drum 1 2; ?", 1, 132 * 7 + 10);
-        fault(many("song 1;", 132) + "drum 1 2; own", 1, 132 * 7 + 10);
+        fault(Texts.many("song 1;", 133), 0, -1);
+        fault(Texts.many("song 1;", 134), 2, 133 * 7 + 5);
+        fault(Texts.many("song 1;", 133) + "song ;", 1, 133 * 7 + 5);
+        fault(Texts.many("song 1;", 132) + "drum 1 2;", 0, -1);
+        fault(Texts.many("song 1;", 132) + "drum 1 2;  ", 0, -1);
+        fault(Texts.many("song 1;", 132) + "drum 1 2; parts 3;", 2, 132 * 7 + 10);
+        fault(Texts.many("song 1;", 132) + "drum 1 2; ?", 1, 132 * 7 + 10);
+        fault(Texts.many("song 1;", 132) + "drum 1 2; own", 1, 132 * 7 + 10);
         // A fault of syntax behind one of room comes later, one ahead of it sooner.
-        fault(many("fog 1 2;", 5) + "?", 2, 32);
-        fault("fog 1;" + many("fog 1 2;", 5), 1, 5);
+        fault(Texts.many("fog 1 2;", 5) + "?", 2, 32);
+        fault("fog 1;" + Texts.many("fog 1 2;", 5), 1, 5);
     }
 
     private static void laterFaults() {
@@ -265,7 +257,7 @@ public final class PromiseTest {
         fault("law a = own; law a = own; parts 2;", 3, 17);
         // Syntax and room ahead of all others.
         fault("parts 2; parts", 1, 14);
-        fault("parts 2;" + many("fog 1 2;", 5), 2, 40);
+        fault("parts 2;" + Texts.many("fog 1 2;", 5), 2, 40);
         // Beyond behind all others, by the last parts told.
         fault("song 24;", 6, 5);
         fault("song 23;", 0, -1);
@@ -471,62 +463,54 @@ public final class PromiseTest {
 
     // ---- 9 to 15
 
-    private static String standing(int parts, int... times) {
-        StringBuilder s = new StringBuilder("parts " + parts + "; law fix = own;");
-        for (int i = 0; i < times.length; i++) {
-            s.append("man ").append((char) ('a' + i)).append(" fix ").append(times[i]).append(";");
-        }
-        return s.toString();
-    }
-
     private static void clashes() {
-        due(9, "a third", of(standing(24, 0, 8, 15)).clashes(), 2);
-        due(9, "a third the other way", of(standing(24, 0, 16, 9)).clashes(), 2);
-        due(9, "half", of(standing(24, 0, 12, 0)).clashes(), 6);
-        due(9, "rounded up, below", of(standing(10, 0, 3, 0)).clashes(), 0);
-        due(9, "rounded up", of(standing(10, 0, 4, 0)).clashes(), 6);
-        due(9, "of 3 parts", of(standing(3, 0, 1, 1, 0, 2)).clashes(), 2 + 8 + 16);
-        due(9, "of 4 parts", of(standing(4, 0, 1, 3)).clashes(), 4);
-        due(9, "one man", of(standing(24, 5)).clashes(), 0);
-        due(9, "the last bench", of(standing(24, 0, 0, 0, 0, 0, 0, 0, 0, 0, 0, 0, 12)).clashes(), 1 << 11);
+        due(9, "a third", of(Texts.standing(24, 0, 8, 15)).clashes(), 2);
+        due(9, "a third the other way", of(Texts.standing(24, 0, 16, 9)).clashes(), 2);
+        due(9, "half", of(Texts.standing(24, 0, 12, 0)).clashes(), 6);
+        due(9, "rounded up, below", of(Texts.standing(10, 0, 3, 0)).clashes(), 0);
+        due(9, "rounded up", of(Texts.standing(10, 0, 4, 0)).clashes(), 6);
+        due(9, "of 3 parts", of(Texts.standing(3, 0, 1, 1, 0, 2)).clashes(), 2 + 8 + 16);
+        due(9, "of 4 parts", of(Texts.standing(4, 0, 1, 3)).clashes(), 4);
+        due(9, "one man", of(Texts.standing(24, 5)).clashes(), 0);
+        due(9, "the last bench", of(Texts.standing(24, 0, 0, 0, 0, 0, 0, 0, 0, 0, 0, 0, 12)).clashes(), 1 << 11);
     }
 
     private static void way() {
-        GalleyStroke x = of(standing(24, 23, 0, 1, 12));
+        GalleyStroke x = of(Texts.standing(24, 23, 0, 1, 12));
         due(10, "way(0)", x.way(0), 3);
         due(10, "way(1)", x.way(1), 0);
         due(10, "way(2)", x.way(2), -1);
         due(10, "way(-1)", x.way(-1), -1);
-        due(10, "the least part", of(standing(24, 12, 5)).way(1), 4);
-        due(10, "the least part around", of(standing(24, 0, 12)).way(1), 0);
-        due(10, "around", of(standing(24, 22, 0)).way(1), 23);
-        due(10, "around", of(standing(24, 22, 0)).way(0), 2);
-        due(10, "too far", of(standing(24, 3, 6)).way(0), 1);
-        due(10, "3 parts", of(standing(3, 0, 1, 2)).way(0), 3);
+        due(10, "the least part", of(Texts.standing(24, 12, 5)).way(1), 4);
+        due(10, "the least part around", of(Texts.standing(24, 0, 12)).way(1), 0);
+        due(10, "around", of(Texts.standing(24, 22, 0)).way(1), 23);
+        due(10, "around", of(Texts.standing(24, 22, 0)).way(0), 2);
+        due(10, "too far", of(Texts.standing(24, 3, 6)).way(0), 1);
+        due(10, "3 parts", of(Texts.standing(3, 0, 1, 2)).way(0), 3);
         due(10, "no men", new GalleyStroke().way(0), -1);
     }
 
     private static void wave() {
-        GalleyStroke x = of(standing(24, 0, 3, 6, 9, 9, 10, 11, 12));
+        GalleyStroke x = of(Texts.standing(24, 0, 3, 6, 9, 9, 10, 11, 12));
         due(11, "wave(0)", x.wave(0), 4);
         due(11, "wave(1), the first of alike ones", x.wave(1), 0);
         due(11, "wave(2)", x.wave(2), 3);
         due(11, "wave(3)", x.wave(3), -1);
         due(11, "wave(-1)", x.wave(-1), -1);
-        GalleyStroke y = of(standing(24, 0, 3, 6, 6, 5, 4, 3));
+        GalleyStroke y = of(Texts.standing(24, 0, 3, 6, 6, 5, 4, 3));
         due(11, "wave(0)", y.wave(0), 4);
         due(11, "wave(1)", y.wave(1), 3);
         due(11, "wave(2)", y.wave(2), -1);
-        GalleyStroke z = of(standing(24, 22, 1, 4, 8));
+        GalleyStroke z = of(Texts.standing(24, 22, 1, 4, 8));
         due(11, "wave(0) around", z.wave(0), 3);
         due(11, "wave(1) around", z.wave(1), 0);
         due(11, "wave(2) around", z.wave(2), 3);
-        GalleyStroke w = of(standing(24, 5, 5, 5, 6));
+        GalleyStroke w = of(Texts.standing(24, 5, 5, 5, 6));
         due(11, "two at least", w.wave(0), 2);
         due(11, "the first of them", w.wave(1), 2);
-        due(11, "all alike", of(standing(24, 5, 5, 5)).wave(0), -2);
-        due(11, "one man", of(standing(24, 5)).wave(1), -2);
-        due(11, "one man, no such what", of(standing(24, 5)).wave(3), -1);
+        due(11, "all alike", of(Texts.standing(24, 5, 5, 5)).wave(0), -2);
+        due(11, "one man", of(Texts.standing(24, 5)).wave(1), -2);
+        due(11, "one man, no such what", of(Texts.standing(24, 5)).wave(3), -1);
     }
 
     private static GalleyStroke foggy(String fog) {
@@ -545,8 +529,8 @@ public final class PromiseTest {
         due(12, "soon(2) two strokes later", x.soon(2), 2);
         due(12, "behind 100", foggy("fog 0 98;").soon(2), 100);
         due(12, "behind 101", foggy("fog 0 99;").soon(2), -2);
-        due(12, "or more", of(standing(24, 1, 1, 1)).soon(2), 0);
-        due(12, "never", of(standing(24, 1, 5)).soon(2), -2);
+        due(12, "or more", of(Texts.standing(24, 1, 1, 1)).soon(2), 0);
+        due(12, "never", of(Texts.standing(24, 1, 5)).soon(2), -2);
     }
 
     private static void rubs() {
@@ -561,12 +545,12 @@ public final class PromiseTest {
         x.teach(3, 1);
         // Behind 1: 12 0 12 0, clashes 1 2 3; behind 2: 12 12 12 12.
         due(13, "rubs(2), alike", x.rubs(2), 1);
-        GalleyStroke y = of(standing(24, 0, 1, 13, 13));
+        GalleyStroke y = of(Texts.standing(24, 0, 1, 13, 13));
         due(13, "rubs(100)", y.rubs(100), 2);
         due(13, "rubs(0)", y.rubs(0), -1);
         due(13, "rubs(101)", y.rubs(101), -1);
-        due(13, "none does", of(standing(24, 0, 1)).rubs(5), -2);
-        due(13, "one man", of(standing(24, 0)).rubs(5), -2);
+        due(13, "none does", of(Texts.standing(24, 0, 1)).rubs(5), -2);
+        due(13, "one man", of(Texts.standing(24, 0)).rubs(5), -2);
         // Bench 2 twice (behind 2 and 3), bench 1 once.
         GalleyStroke often = of("law d = drum; law copy = ahead; law fix = own; man a d 0; man b copy 0; man c fix 0;"
             + "drum 12 0;");
@@ -575,7 +559,7 @@ public final class PromiseTest {
     }
 
     private static void still() {
-        due(14, "still", of(standing(24, 0, 5)).still(), 1);
+        due(14, "still", of(Texts.standing(24, 0, 5)).still(), 1);
         GalleyStroke x = foggy("fog 0 0;");
         due(14, "FOG is not looked at", x.still(), 0);
         due(14, "nothing happens", x.count(3), 0);
@@ -722,7 +706,7 @@ public final class PromiseTest {
     }
 
     private static void seatingEdges() {
-        GalleyStroke six = of(standing(24, 0, 12, 0, 12, 0, 12));
+        GalleyStroke six = of(Texts.standing(24, 0, 12, 0, 12, 0, 12));
         due(20, "six men", six.seating(1, 1), 1);
         seats(21, six, 1, 1, 0, 2, 4, 1, 3, 5);
         due(22, "six men", six.better(1, 1), 104);
@@ -739,18 +723,18 @@ public final class PromiseTest {
         due(22, "better(-1, 1)", six.better(-1, 1), -1);
         due(22, "better(1, 0)", six.better(1, 0), -1);
         due(22, "better(1, 31)", six.better(1, 31), -1);
-        GalleyStroke seven = of(standing(24, 0, 12, 0, 12, 0, 12, 12));
+        GalleyStroke seven = of(Texts.standing(24, 0, 12, 0, 12, 0, 12, 12));
         due(20, "seven men", seven.seating(1, 1), -2);
         due(20, "seven men, no such what", seven.seating(3, 1), -1);
         due(21, "seven men", seven.seat(1, 1, 0), -2);
         due(21, "seven men, no such bench", seven.seat(1, 1, 7), -1);
         due(22, "seven men", seven.better(1, 1), 104);
-        GalleyStroke twelve = of(standing(24, 0, 0, 0, 0, 0, 0, 0, 0, 0, 12, 0, 12));
+        GalleyStroke twelve = of(Texts.standing(24, 0, 0, 0, 0, 0, 0, 0, 0, 0, 12, 0, 12));
         due(22, "twelve men", twelve.better(1, 1), 910);
         due(22, "no men", new GalleyStroke().better(0, 1), -1);
         due(20, "no men", new GalleyStroke().seating(0, 1), -1);
         due(21, "no men", new GalleyStroke().seat(0, 1, 0), -1);
-        GalleyStroke one = of(standing(24, 7));
+        GalleyStroke one = of(Texts.standing(24, 7));
         due(20, "one man", one.seating(2, 3), 3);
         due(22, "one man", one.better(2, 3), -2);
     }
@@ -851,7 +835,7 @@ public final class PromiseTest {
         due(25, "odds(1, 1, 10)", x.odds(1, 1, 10), -1);
         due(25, "no men", new GalleyStroke().odds(1, 1, 2), -1);
         times(25, "nothing happens", x, 0, 6);
-        due(25, "no drum", of(standing(24, 1, 1, 9)).odds(10, 4, 9), 2 * 3486784401L);
+        due(25, "no drum", of(Texts.standing(24, 1, 1, 9)).odds(10, 4, 9), 2 * 3486784401L);
     }
 
     // ---- 26 to 30
@@ -912,10 +896,10 @@ public final class PromiseTest {
         due(28, "suspects(-1, 0)", x.suspects(-1, 0), -1);
         due(29, "suspect(1, 4, 0)", x.suspect(1, 4, 0), -1);
         due(29, "suspect(3, 0, 0)", x.suspect(3, 0, 0), -1);
-        GalleyStroke one = of(standing(24, 1));
+        GalleyStroke one = of(Texts.standing(24, 1));
         due(28, "a pair of one", one.suspects(2, 0), 0);
         due(28, "one of one", one.suspects(1, 0), 1);
-        due(28, "12 men", of(standing(24, 0, 0, 0, 0, 0, 0, 0, 0, 0, 0, 0, 0)).suspects(2, 0), 66);
+        due(28, "12 men", of(Texts.standing(24, 0, 0, 0, 0, 0, 0, 0, 0, 0, 0, 0, 0)).suspects(2, 0), 66);
     }
 
     private static void suspectsAsTold() {
@@ -933,7 +917,7 @@ public final class PromiseTest {
         due(29, "as the text was told", x.suspect(1, 3, 0), 4);
         due(28, "as the text was told", x.suspects(1, 3), 1);
         // Stroke 0 is the text's begin.
-        GalleyStroke begin = of(standing(24, 0, 12));
+        GalleyStroke begin = of(Texts.standing(24, 0, 12));
         begin.tell(0, 1, true);
         begin.tell(99, 1, true);
         due(28, "stroke 0", begin.suspects(0, 1), 1);
@@ -957,9 +941,9 @@ public final class PromiseTest {
         due(30, "check(-1, 1, 1)", x.check(-1, 1, 1), -1);
         due(30, "check(1, 4, 1)", x.check(1, 4, 1), -1);
         due(30, "check(1, -1, 1)", x.check(1, -1, 1), -1);
-        due(30, "one man", of(standing(24, 1)).check(0, 0, 0), -2);
-        due(30, "one man, no such stroke", of(standing(24, 1)).check(0, 0, 100), -1);
-        due(30, "two men", of(standing(24, 1, 2)).check(2, 0, 0), 1);
+        due(30, "one man", of(Texts.standing(24, 1)).check(0, 0, 0), -2);
+        due(30, "one man, no such stroke", of(Texts.standing(24, 1)).check(0, 0, 100), -1);
+        due(30, "two men", of(Texts.standing(24, 1, 2)).check(2, 0, 0), 1);
     }
 
     // ---- 31 to 33
@@ -1004,7 +988,7 @@ public final class PromiseTest {
         x.row(1);
         due(32, "restore(1)", x.restore(1), true);
         due(32, "the stroke", x.count(3), 5);
-        GalleyStroke bare = of(standing(24, 1, 2));
+        GalleyStroke bare = of(Texts.standing(24, 1, 2));
         bare.hold(0);
         bare.beat(5);
         bare.restore(0);
